@@ -538,18 +538,13 @@ public final class MapHall {
         int cell = NONE;
         int turns;
 
-        /** Sets every field, since an undone sheet may have left its own here. */
+        /** The other fields are still as new: undo and restore put back all sheets, added or not. */
         void begin(int north, int east, int south, int west, char kindOfSheet) {
             borders[0] = north;
             borders[1] = east;
             borders[2] = south;
             borders[3] = west;
             type = kindOfSheet;
-            creaseTotal = 0;
-            worn = 0;
-            folded = false;
-            cell = NONE;
-            turns = 0;
         }
 
         void copyFrom(Sheet other) {

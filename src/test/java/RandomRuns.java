@@ -59,10 +59,10 @@ final class RandomRuns {
             return;
         }
         String name = CHANGES[below(CHANGES.length)];
-        boolean isRare = name.equals("restore") || name.equals("take");
+        boolean isRare = name.equals("restore") || name.equals("take") || name.equals("undo");
         if (name.equals("text")) {
             text();
-        } else if (!isRare || below(4) == 0) {
+        } else if (!isRare || below(6) == 0) {
             for (Method method : methods) {
                 if (method.getName().equals(name)) {
                     both(method, argumentsOf(method));
@@ -105,13 +105,21 @@ final class RandomRuns {
             return below(23);
         }
         if (name.equals("addCrease") && creases == 0) {
-            return below(3);
+            return below(Math.max(1, hall.sheetCount() / 3));
         }
         if (name.equals("canBeOnTop") && index == 1) {
             return below(8);
         }
-        boolean isSide = name.startsWith("border") && index == 1 || index == 2;
-        return isSide ? below(4) : below(9);
+        if (name.startsWith("border") && index == 1 || index == 2) {
+            return below(4);
+        }
+        boolean isCell = index == 1 || name.equals("take") || name.endsWith("In") || name.equals("pointsOf");
+        return isCell ? below(9) : sheet();
+    }
+
+    /** Mostly one that exists. */
+    private int sheet() {
+        return below(20) == 0 ? below(9) : below(Math.max(1, hall.sheetCount()));
     }
 
     private void text() throws Exception {
@@ -134,13 +142,13 @@ final class RandomRuns {
         return switch (below(8)) {
             case 0 -> "sheet " + below(codes) + below(codes) + below(codes) + below(codes) + " "
                     + "slc".charAt(below(3));
-            case 1 -> "crease " + below(9) + " " + "vm".charAt(below(2));
-            case 2 -> "fold " + below(9);
-            case 3 -> "open " + below(9);
-            case 4 -> "mend " + below(9);
+            case 1 -> "crease " + sheet() + " " + "vm".charAt(below(2));
+            case 2 -> "fold " + sheet();
+            case 3 -> "open " + sheet();
+            case 4 -> "mend " + sheet();
             case 5 -> "take " + below(9);
             case 6 -> "paste " + (below(2) == 0 ? "0" : "") + below(10);
-            default -> "put " + below(9) + " " + below(9) + " " + below(4);
+            default -> "put " + sheet() + " " + below(9) + " " + below(4);
         };
     }
 

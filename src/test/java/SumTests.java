@@ -36,6 +36,7 @@ final class SumTests {
         hall.unfold(2);
         hall.addCrease(2, 'm');
         ranks(hall, 2, 3, 0, 1);
+        ranks(TableTests.withKinds("sssssssss"), 0, 1, 2, 3, 4, 5, 6, 7, 8);
     }
 
     private static void sheetByWearRefusals() {
@@ -84,6 +85,10 @@ final class SumTests {
         Check.same(0.5, hall.meanWear());
         hall.addSheet(0, 0, 0, 0, 's');
         Check.same(1.0 / 3.0, hall.meanWear());
+        for (int sheet = 3; sheet < 9; sheet++) {
+            hall.addSheet(0, 0, 0, 0, 's');
+        }
+        Check.same(1.0 / 9.0, hall.meanWear());
     }
 
     private static void meanWearRefusals() {

@@ -4,12 +4,14 @@ final class UndoTests {
         check.test("promise 51: undoCount counts recorded calls, up to 8", UndoTests::undoCount);
         check.test("promise 51: refused and asking calls are not recorded", UndoTests::notRecorded);
         check.test("promise 52: undo of each kind of call", UndoTests::undoEach);
+        check.test("promise 52: undo of eight calls, one by one", UndoTests::undoOneByOne);
         check.test("promise 52: an undone sheet leaves nothing", UndoTests::undoneSheetLeavesNothing);
         check.test("promise 52: undo refuses", UndoTests::undoRefusals);
         check.test("promise 52: only the 8 latest calls", UndoTests::undoLatest);
         check.test("promise 52: a refused call costs no step", UndoTests::refusedCostsNothing);
         check.test("promise 52: input and output are not undone", UndoTests::undoKeepsBuffers);
         check.test("promises 53 and 54: save and restore", UndoTests::saveAndRestore);
+        check.test("promise 54: restore brings back replaced sheets", UndoTests::restoreReplaced);
         check.test("promise 53: an earlier saved state is replaced", UndoTests::saveReplaces);
         check.test("promise 53: save is not recorded and not undone", UndoTests::saveAndUndo);
         check.test("promise 54: restore refuses", UndoTests::restoreRefusals);
@@ -64,41 +66,48 @@ final class UndoTests {
         Check.same(2, hall.undoCount());
     }
 
-    private static void undoEach() {
+    /** The call is recorded, and undone to the very state from before. */
+    private static void isUndone(MapHall hall, Check.Body call) throws Exception {
+        int recorded = Math.min(8, hall.undoCount() + 1);
+        String before = Digest.of(hall);
+        call.run();
+        Check.same(recorded, hall.undoCount());
+        Check.holds(!before.equals(Digest.of(hall)));
+        Check.same(recorded - 1, hall.undo());
+        Check.same(before, Digest.of(hall));
+    }
+
+    private static void undoEach() throws Exception {
         MapHall hall = SheetTests.withSheet("vm");
-        hall.addPaste(9);
-        String[] texts = {"sheet 1111 s", "crease 0 v", "fold 0", "put 0 0 1"};
-        for (String text : texts) {
-            String before = Digest.of(hall);
-            CommandTests.runText(hall, text);
-            Check.holds(!before.equals(Digest.of(hall)));
-            Check.same(4, hall.undo());
-            Check.same(before, Digest.of(hall));
-        }
+        isUndone(hall, () -> hall.addSheet(1, 2, 3, 4, 'c'));
+        isUndone(hall, () -> hall.addCrease(0, 'v'));
+        isUndone(hall, () -> hall.addPaste(4));
+        isUndone(hall, () -> hall.fold(0));
+        hall.addPaste(1);
+        isUndone(hall, () -> hall.put(0, 4, 1));
+        isUndone(hall, () -> CommandTests.runText(hall, "paste 7;fold 0;open 0;mend 0;put 0 8 3"));
         hall.fold(0);
-        String folded = Digest.of(hall);
+        isUndone(hall, () -> hall.unfold(0));
         hall.unfold(0);
-        String worn = Digest.of(hall);
-        hall.mend(0);
-        String mended = Digest.of(hall);
-        hall.put(0, 8, 2);
-        String laid = Digest.of(hall);
-        hall.take(8);
-        Check.same(7, hall.undo());
-        Check.same(laid, Digest.of(hall));
-        Check.same(6, hall.undo());
-        Check.same(mended, Digest.of(hall));
-        Check.same(5, hall.undo());
-        Check.same(worn, Digest.of(hall));
-        Check.same(4, hall.undo());
-        Check.same(folded, Digest.of(hall));
-        Check.same(3, hall.undo());
-        Check.same(2, hall.undo());
-        Check.same(0, hall.paste());
-        Check.same(1, hall.undo());
-        Check.same(1, hall.creaseCount(0));
-        Check.same(0, hall.undo());
-        Check.same(0, hall.creaseCount(0));
+        hall.addPaste(4);
+        isUndone(hall, () -> hall.mend(0));
+        hall.put(0, 4, 3);
+        isUndone(hall, () -> hall.take(4));
+    }
+
+    private static void undoOneByOne() {
+        MapHall hall = SheetTests.withSheet("");
+        String[] texts = {"crease 0 v", "put 0 0 1", "take 0", "put 0 0 2", "take 0", "fold 0",
+            "open 0", "paste 9"};
+        String[] before = new String[texts.length];
+        for (int index = 0; index < texts.length; index++) {
+            before[index] = Digest.of(hall);
+            CommandTests.runText(hall, texts[index]);
+        }
+        for (int index = texts.length - 1; index >= 0; index--) {
+            Check.same(index, hall.undo());
+            Check.same(before[index], Digest.of(hall));
+        }
     }
 
     private static void undoneSheetLeavesNothing() {
@@ -185,6 +194,23 @@ final class UndoTests {
         Check.refuses(IllegalStateException.class, hall::undo);
         hall.addPaste(2);
         Check.same(0, hall.undo());
+        Check.same(saved, Digest.of(hall));
+    }
+
+    private static void restoreReplaced() {
+        MapHall hall = new MapHall();
+        hall.addSheet(1, 2, 3, 4, 'c');
+        SheetTests.addCreases(hall, 0, "vvvvvv");
+        hall.put(0, 4, 1);
+        String saved = Digest.of(hall);
+        hall.save();
+        for (int left = 7; left >= 0; left--) {
+            Check.same(left, hall.undo());
+        }
+        hall.addSheet(5, 6, 7, 8, 's');
+        SheetTests.addCreases(hall, 0, "mmmmmm");
+        hall.put(0, 4, 2);
+        hall.restore();
         Check.same(saved, Digest.of(hall));
     }
 
