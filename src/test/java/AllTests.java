@@ -10,6 +10,13 @@ public final class AllTests {
         CommandTests.run(check);
         OutputTests.run(check);
         UndoTests.run(check);
+        TermEdges.run(check);
+        CommandEdges.run(check);
+        UndoEdges.run(check);
+        ChangeEdges.run(check);
+        QuestionEdges.run(check);
+        CountEdges.run(check);
+        OutputEdges.run(check);
         RandomRuns.run(check);
         System.exit(check.failures() == 0 ? 0 : 1);
     }

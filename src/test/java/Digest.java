@@ -1,5 +1,7 @@
 /** All that can be asked of the undone and saved state of a hall, as a text. */
 final class Digest {
+    private static final int LONGEST_OUTPUT = 22;
+
     private interface Question {
         Object ask();
     }
@@ -15,6 +17,19 @@ final class Digest {
             int asked = cell;
             text.append(answer(() -> hall.sheetIn(asked))).append(' ');
             text.append(answer(() -> hall.turnsIn(asked))).append('\n');
+        }
+        return text.toString();
+    }
+
+    /** All that can be asked of a hall; that of the input buffer is left out, as asking changes it. */
+    static String whole(MapHall hall) {
+        StringBuilder text = new StringBuilder(of(hall));
+        text.append(hall.undoCount()).append(' ');
+        text.append(answer(hall::errorPosition)).append(' ');
+        text.append(answer(hall::failedCommand)).append('\n');
+        for (int index = 0; index < LONGEST_OUTPUT; index++) {
+            int asked = index;
+            text.append(answer(() -> hall.outputChar(asked)));
         }
         return text.toString();
     }
